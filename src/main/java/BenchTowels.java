@@ -640,7 +640,7 @@ public final class BenchTowels {
         }
 
         void copy(Gym from) {
-            for (int what = 0; what <= LEFT; what++) System.arraycopy(from.of[what], 0, of[what], 0, SETS);
+            for (int what = KIND; what < LEFT; what++) System.arraycopy(from.of[what], 0, of[what], 0, SETS);
             sets = from.sets;
             System.arraycopy(from.machine[TAKEN], 0, machine[TAKEN], 0, MACHINES);
             end = from.end;
@@ -655,7 +655,6 @@ public final class BenchTowels {
             System.arraycopy(from.tired, 0, tired, 0, MUSCLES);
             minute = from.minute;
             score = from.score;
-            done = from.done;
         }
 
         int add(int kind, int itsMachine, int weight, int muscle) {
@@ -1129,7 +1128,6 @@ public final class BenchTowels {
 
         void match(Gym gym, int n) {
             begin(gym, n);
-            firstMove = 0;
             value = playOn(0);
         }
 

@@ -151,6 +151,20 @@ public final class GameTest {
         x.report(0, 2, 2);
         Due.is("two of them", x.liar(), -3);
         x.forget();
+        // One man alone FITS: START 0, PAUSE 4, TIMES 2.
+        x.report(0, 1, 1);
+        x.report(3, 1, 1);
+        x.report(4, 2, 2);
+        x.report(15, 2, 2);
+        Due.is("just one", x.span(0), 1);
+        Due.is("one FITS", x.liar(), -3);
+        x.forget();
+        Due.is("no REPORTS: liar", x.liar(), -3);
+        x.report(0, 3, 3);
+        x.report(0, 4, 4);
+        x.report(0, 3, 4);
+        Due.is("none but for one", x.liar(), -3);
+        x.forget();
         for (int i = 0; i < 5; i++) x.report(15, 0, 4);
         x.report(0, 4, 4);
         Due.is("the last", x.liar(), 5);
@@ -211,6 +225,25 @@ public final class GameTest {
         Due.is("times(1, 0)", x.times(1, 0), 1);
         Due.is("z is as it was", x.seed(99), 99);
         Due.is("all is as it was", x.state(0) + x.state(2) + x.state(5) + x.machineOf(0, 0) + x.setOf(0, 4), 3);
+        x.ends(16);
+        x.change(0, 4, 9);
+        // All 16 MINUTES count.
+        z = 99;
+        int told = 0;
+        for (int t = 0; t < 16; t++) {
+            z = z * 1103515245 + 12345;
+            told |= (z >>> 16) % 2 << t;
+        }
+        BenchTowels y = new BenchTowels();
+        y.set(4, 0, 9, 0);
+        y.change(0, 4, 9);
+        y.ends(16);
+        y.sheet(0, 0, 16);
+        for (int t = 0; t < 16; t++) y.write(0, t, told >> t & 1);
+        int most = y.wouldBe(0, 0, 16);
+        Due.is("just as much", x.times(1, most), 1);
+        Due.is("no more", x.times(1, most + 1), 0);
+        x.ends(1);
         x.minute();
         Due.is("OVER: 0 each", x.times(7, 0), 7);
         Due.is("OVER: 0 each", x.times(7, 1), 0);

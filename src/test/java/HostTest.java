@@ -32,9 +32,10 @@ public final class HostTest {
         Due.is("the first named", x.sheet(4, 0, -1), -1);
         Due.is("the first named", x.sheet(0, 5, -1), -1);
         Due.is("it stays", x.item(0, 2, 39), 0);
-        x.write(0, 3, 7);
+        for (int i = 0; i < 40; i++) x.write(0, i, 7);
+        Due.is("sheet(0, 3, 40)", x.sheet(0, 3, 40), 1);
+        for (int i = 0; i < 40; i++) Due.is("all 0 again", x.item(0, 3, i), 0);
         Due.is("sheet(0, 2, 5)", x.sheet(0, 2, 5), 1);
-        Due.is("all 0 again", x.item(0, 2, 3), 0);
         Due.is("no sixth", x.item(0, 2, 5), -12);
         Due.is("missing; n counts nothing", x.sheet(0, -1, 41), 1);
         Due.is("missing", x.item(0, 2, 0), -11);
@@ -139,6 +140,11 @@ public final class HostTest {
         Due.is("outside", x.wouldBe(2, -1, 2), -12);
         Due.is("by items: no ACT ahead of outside", x.wouldBe(2, 4, 9), -4);
         Due.is("outside", x.wouldBe(2, Integer.MAX_VALUE, 2), -12);
+        x.ends(2);
+        x.sheet(1, 0, 21);
+        x.ends(16);
+        Due.is("20 are too many MINUTES", x.wouldBe(1, 0, 20), -4);
+        Due.is("16 MINUTES", x.wouldBe(1, 5, 16), 0);
         x.ends(2);
         Due.is("just till it's OVER", x.wouldBe(2, 1, 2), 5);
         Due.is("OVER ahead of the third", x.wouldBe(2, 0, 3), -4);

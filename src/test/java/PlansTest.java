@@ -104,6 +104,9 @@ public final class PlansTest {
         Due.is("more ACTS than SETS", x.train(4, 1), 3);
         Due.is("more ACTS than SETS, both", x.train(4, 3), 3);
         Due.is("more ACTS than SETS in two MINUTES", x.train(2, 1), -3);
+        Due.rules(x, "held if tired < 3 wait;");
+        Due.is("four ACTS", x.train(4, 1), 4);
+        Due.is("four ACTS in three MINUTES", x.train(3, 1), -3);
     }
 
     // Promise 27

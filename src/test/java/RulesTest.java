@@ -6,10 +6,14 @@ public final class RulesTest {
         faults();
         endFaults();
         wordsAndNumbers();
+        spoiltWords();
+        staleTape();
+        manyTexts();
         parens();
         ninthRule();
         wills();
         facts();
+        numbersByMinute();
         precedence();
         deep();
         effects();
@@ -141,12 +145,57 @@ public final class RulesTest {
         well("set if 9999 > left lift;", 1);
     }
 
+    // Each word with one letter that is another, or one less, or one more.
+    private static void spoiltWords() {
+        String[] texts = {"set lift;", "alone lift;", "shared lift;", "paired lift;", "held lift;", "unasked lift;",
+            "set ease;", "set wait;", "set if 1=1 lift;", "set if 1=1 or 1=1 lift;", "set if 1=1 and 1=1 lift;",
+            "set if not 1=1 lift;", "set if minute=1 lift;", "set if weight=1 lift;", "set if tired=1 lift;",
+            "set if left=1 lift;", "set if number=1 lift;"};
+        for (String text : texts) {
+            well(text, 1);
+            int from = 0;
+            for (int i = 0; i < text.length(); i++) {
+                if (!Character.isLetter(text.charAt(i))) {
+                    from = i + 1;
+                    continue;
+                }
+                fault(text.substring(0, i) + "z" + text.substring(i + 1), from);
+                fault(text.substring(0, i) + "z" + text.substring(i), from);
+                fault(text.substring(0, i) + text.substring(i + 1), from);
+            }
+        }
+        fault("setz lift;", 0);
+        fault("set liftz;", 4);
+    }
+
     private static void parens() {
         fault("set if ((((1=1)))) lift;", 10);
         fault("set if (1=1 and (2=2 or not(3=3 and (4=4)))) lift;", 36);
         well("set if (((1=1)) and ((2=2))) and (((3=3))) lift;", 1);
         fault("set if (((1=1)) lift;", 16);
         fault("set if )1=1 lift;", 7);
+    }
+
+    // What an earlier, longer text left behind on THE TAPE counts nothing.
+    private static void staleTape() {
+        BenchTowels x = new BenchTowels();
+        Due.rules(x, "set if 1111111111 = 1 lift;");
+        Due.is("a NUMBER at the end", Due.rules(x, "set if 1"), -108);
+        Due.rules(x, "set if 1 < 99999999 lift;");
+        Due.is("a NUMBER at the end", Due.rules(x, "set if 1 < 99"), -113);
+        Due.rules(x, "setsetsetset lift;");
+        Due.is("a NAME at the end", Due.rules(x, "set"), -103);
+        Due.rules(x, "set lift;;;;;");
+        Due.is("a RULE at the end", Due.rules(x, "set lift;"), 1);
+    }
+
+    // Texts told one behind the other leave nothing of each other.
+    private static void manyTexts() {
+        BenchTowels x = Due.ofEachKind(6);
+        for (int i = 0; i < 30; i++) {
+            Due.rules(x, "set if 1=2 or 1=2 or 1=2 or 1=2 or 1=2 or 1=2 or 1=2 or 1=1 wait;");
+            Due.is("the text for the " + i + "th time", x.setOf(0, 8), 2);
+        }
     }
 
     private static void ninthRule() {
@@ -206,6 +255,19 @@ public final class RulesTest {
         Due.is("all as told again", x.setOf(1, 8), 2);
     }
 
+    private static void numbersByMinute() {
+        BenchTowels x = Due.ofEachKind(6);
+        x.ends(16);
+        for (int s = 0; s < 5; s++) x.change(s, 4, 0);
+        for (int t = 0; t < 16; t++) {
+            Due.rules(x, "set if minute = " + t + " ease;");
+            Due.is("minute = " + t, x.setOf(0, 8), 1);
+            Due.rules(x, "set if minute < " + t + " or minute > 0" + t + " wait; set if 00" + t + "=minute ease;");
+            Due.is("minute = 00" + t, x.setOf(0, 8), 1);
+            x.minute();
+        }
+    }
+
     private static void precedence() {
         will("set if 1=1 or 1=2 and 1=2 wait;", 2);
         will("set if 1=2 and 1=2 or 1=1 wait;", 2);
@@ -224,6 +286,10 @@ public final class RulesTest {
         will("set if 2>1 wait;", 2);
         will("set if 1>1 wait;", 0);
         will("set if 0010=10 wait;", 2);
+        will("set if 6 = weight wait;", 2);
+        will("set if 7 = weight wait;", 0);
+        will("set if 0 = minute and 0 = tired and 3 = left and 1 = number wait;", 0, 2, 0, 0, 0);
+        will("set if minute < weight and tired < left and number = minute wait;", 2, 0, 0, 0, 0);
         will("set if 9998<9999 wait;", 2);
     }
 

@@ -28,6 +28,8 @@ public final class WaitTest {
         x.ends(5);
         Due.is("too few MINUTES", x.gather(63), -3);
         Due.is("five of them", x.gather(62), 4);
+        Due.is("one of one, in MINUTE 0", x.gathered(1, 0), 0);
+        Due.is("one of five", x.gathered(62, 5), 4);
         x.minute();
         Due.is("from MINUTE on", x.gather(7), 3);
         x.ends(1);
@@ -134,6 +136,13 @@ public final class WaitTest {
         x.machine(5, 1, 1 << 15);
         Due.is("MINUTE 15", x.busiest(0), 15);
         Due.is("one", x.busiest(1), 1);
+        for (int t = 14; t >= 0; t--) {
+            x.machine(4, 1, 1 << t);
+            x.machine(3, 1, 1 << t);
+            Due.is("MINUTE " + t, x.busiest(0), t);
+        }
+        x.machine(4, 1, 0);
+        x.machine(3, 1, 0);
         x.machine(0, 1, 1 << 9 | 1 << 4);
         x.machine(1, 1, 1 << 9 | 1 << 4);
         Due.is("of several the least", x.busiest(0), 4);
