@@ -40,6 +40,10 @@ public final class GameTest {
         Due.is("nothing changed", x.state(0) + x.setOf(1, 4) + x.machineOf(0, 0), 1);
         // Who is second does the last one of it in a MINUTE in which it's worth less.
         x = new BenchTowels();
+        x.set(2, 0, 1, 0);
+        x.set(4, 1, 9, 0);
+        Due.is("play() ahead of game()", x.play(1), 2);
+        x = new BenchTowels();
         x.set(3, 0, 9, 0);
         x.change(0, 4, 1);
         x.minute();
@@ -164,6 +168,8 @@ public final class GameTest {
         x.report(0, 4, 4);
         x.report(0, 3, 4);
         Due.is("none but for one", x.liar(), -3);
+        for (int i = 0; i < 3; i++) x.report(0, 2, 4);
+        Due.is("none but for one of six", x.liar(), -3);
         x.forget();
         for (int i = 0; i < 5; i++) x.report(15, 0, 4);
         x.report(0, 4, 4);

@@ -241,6 +241,15 @@ public final class GymTest {
         Due.is("anew: WEIGHT stays", x.setOf(0, 2), 8);
         Due.is("anew: z stays", x.seed(1), 77);
         Due.is("anew() again", x.anew(), 0);
+        x = new BenchTowels();
+        for (int i = 0; i < 6; i++) {
+            x.set(4, i, 5, 0);
+            x.change(i, 4, i % 2);
+        }
+        Due.is("six: none LEFT", x.state(4), 0b010101);
+        x.anew();
+        for (int i = 0; i < 6; i++) Due.is("six: LEFT", x.setOf(i, 4), 3);
+        Due.is("six: none LEFT", x.state(4), 0);
     }
 
     // Promise 11

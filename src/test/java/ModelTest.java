@@ -9,7 +9,7 @@ import java.util.Random;
 
 /**
  * Runs of calls by chance (always the same ones) on a BenchTowels and on the Model; all answers must be alike, and
- * none may throw. Arguments: runs to make (400), first seed (1).
+ * none may throw. Arguments: runs to make (1000), first seed (1).
  */
 public final class ModelTest {
     private static final String[] WORDS = {"set", "alone", "shared", "paired", "held", "unasked", "lift", "ease", "wait",
@@ -27,7 +27,7 @@ public final class ModelTest {
     }
 
     public static void main(String[] args) throws Exception {
-        int runs = args.length > 0 ? Integer.parseInt(args[0]) : 400;
+        int runs = args.length > 0 ? Integer.parseInt(args[0]) : 1000;
         long first = args.length > 1 ? Long.parseLong(args[1]) : 1;
         List<Method> methods = new ArrayList<>();
         for (Method m : BenchTowels.class.getDeclaredMethods()) {

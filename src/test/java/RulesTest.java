@@ -125,6 +125,13 @@ public final class RulesTest {
         fault("set wait; alone ease", 20);
         String full = ("set wait; " + " ".repeat(200)).substring(0, 196) + " set";
         fault(full, 200);
+        fault(";".repeat(200), 0);
+        fault("set if" + "(".repeat(194), 9);
+        fault("set if " + "1".repeat(193), 7);
+        fault(" ".repeat(190) + "set if 123", 200);
+        well(" ".repeat(191) + "set ease;", 1);
+        well("set if 1=1" + " and 1=1".repeat(22) + " wait    ;", 1);
+        well("set if " + "not ".repeat(46) + "1=1 wait;", 1);
     }
 
     private static void wordsAndNumbers() {
@@ -174,6 +181,8 @@ public final class RulesTest {
         well("set if (((1=1)) and ((2=2))) and (((3=3))) lift;", 1);
         fault("set if (((1=1)) lift;", 16);
         fault("set if )1=1 lift;", 7);
+        fault("set if 1=1 if;", 11);
+        fault("set if (1=1) if lift;", 13);
     }
 
     // What an earlier, longer text left behind on THE TAPE counts nothing.
