@@ -1,14 +1,36 @@
-/** What all tests use: an answer beside the one that is due. */
+import java.io.IOException;
+import java.nio.file.Files;
+import java.nio.file.Path;
+
+/** What all tests use: an answer beside the one that is due, by the sentence of the document that asks for it. */
 final class Due {
+    private static final String DOCUMENT = document();
+
     private static int asked = 0, wrong = 0;
+    private static String sentence = "";
 
     private Due() { }
+
+    /** What is asked from here on is due by a sentence of the document, for a promise; the words must stand there. */
+    static void by(int promise, String words) {
+        sentence = "Promise " + promise + ", \"" + words + "\": ";
+        is("words of the document", DOCUMENT.isEmpty() || DOCUMENT.contains(words) ? 1 : 0, 1);
+    }
+
+    /** Its words, parted by one blank each; nothing if it isn't there: then the tests ask all but the words. */
+    private static String document() {
+        try {
+            return Files.readString(Path.of("../shared/DOC.md")).replaceAll("\\s+", " ");
+        } catch (IOException e) {
+            return "";
+        }
+    }
 
     static void is(String call, long got, long want) {
         asked++;
         if (got == want) return;
         wrong++;
-        System.out.println(call + " answered " + got + ", due is " + want);
+        System.out.println(sentence + call + " answered " + got + ", due is " + want);
     }
 
     /** Ends the test: exit code 1 if an answer was not the one that is due. */
