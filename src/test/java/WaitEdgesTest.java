@@ -177,7 +177,12 @@ public final class WaitEdgesTest {
         Due.is("free(2, 16) when it is OVER", x.free(2, 16), -3);
         Edges.still("free(0, 13)", Edges::busy, y -> y.free(0, 13), 3);
         Edges.still("free(0, 14)", Edges::busy, y -> y.free(0, 14), -3);
-        Edges.still("free(6, 16)", Edges::busy, y -> y.free(6, 16), -1);
+        Due.by(21, "of several the first named");
+        Edges.still("free(0, 14), which is NONE", Edges::over, y -> y.free(0, 14), -3);
+        Edges.still("free(6, 14)", Edges::over, y -> y.free(6, 14), -1);
+        Edges.still("free(-1, 16)", Edges::over, y -> y.free(-1, 16), -1);
+        Edges.still("free(0, 17)", Edges::over, y -> y.free(0, 17), -1);
+        Edges.still("free(0, 0)", Edges::over, y -> y.free(0, 0), -1);
     }
 
     private static void busiest() {
